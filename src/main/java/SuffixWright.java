@@ -453,7 +453,7 @@ public final class SuffixWright {
         }
 
         int longestOf(int state) {
-            return within(state, longest.length) ? longest[state] : 0;
+            return state >= 0 && state < MOST_STATES ? longest[state] : 0;
         }
 
         int shortestOf(int state) {

@@ -610,7 +610,7 @@ public final class SuffixWright {
             }
         }
 
-        /** Ahead of a state: how many letters, of the lesser ones, lead at least to a word that is no part. */
+        /** Ahead of a state: how few of the lesser letters lead on to a word that is no part. */
         void measureGaps(int letters) {
             outside = 0;
             for (int place = automaton.stateCount() - 1; place >= 0; place--) {

@@ -650,7 +650,7 @@ public final class SuffixWright {
             word.empty();
             int state = ROOT;
             int left = number;
-            while (left >= 0 && state != NONE) {
+            for (int spelled = 0; spelled < MOST_LETTERS && left >= 0 && state != NONE; spelled++) {
                 int letter = 0;
                 int those = aheadOf(automaton.step(state, letter));
                 while (letter < ALPHABET && those <= left) {

@@ -10,34 +10,52 @@ final class ModelTests {
         "common", "repeated", "missing"};
     private static final String[] STEPS = {"erase", "wipe", "open"};
 
+    // Nothing is promised about an object after its call 512.
+    private static final int MOST_CALLS = 512;
+
     // A fixed row of numbers: the same runs each time.
     private static long seed = 1;
 
     private static SuffixWright object;
     private static PlainModel model;
     private static String run;
+    private static int calls;
 
     public static void main(String[] args) {
-        for (int turn = 0; turn < 240; turn++) {
-            seed = 1000 + turn;
-            run = "run " + turn;
-            object = new SuffixWright();
-            model = new PlainModel();
-            runOf(1 + turn % 4, 1 + turn % 3 + (turn % 10 == 0 ? 23 : 0), turn % 7 == 0);
+        for (int turn = 0; turn < 400; turn++) {
+            runOfTurn(turn);
         }
         fullOfOneLetter();
         eachWordOfALongText();
-        thousandsOfClears();
+        clearsAgainAndAgain();
         Due.end();
     }
 
-    /** A run of some 500 calls with texts, letters of an alphabet, and sometimes wild arguments. */
-    private static void runOf(int texts, int alphabet, boolean wild) {
+    private static void begin(String name) {
+        run = name;
+        object = new SuffixWright();
+        model = new PlainModel();
+        calls = 0;
+    }
+
+    private static void runOfTurn(int turn) {
+        begin("run " + turn);
+        seed = 1000 + turn;
+        int texts = 1 + turn % 4;
+        int alphabet = 1 + turn % 3 + (turn % 10 == 0 ? 23 : 0);
         for (int text = 0; text < texts; text++) {
             hold("open");
         }
-        int calls = texts;
-        while (calls < 500) {
+        // Of some runs the texts have many letters from the beginning.
+        for (int many = 0; many < turn % 5 * 24; many++) {
+            hold("append", next(texts), next(alphabet));
+        }
+        runOf(texts, alphabet, turn % 7 == 0);
+    }
+
+    /** A run up to the call 512 with texts, letters of an alphabet, and sometimes wild arguments. */
+    private static void runOf(int texts, int alphabet, boolean wild) {
+        while (calls < MOST_CALLS) {
             int kind = next(20);
             if (kind < 8) {
                 hold("append", next(texts), next(alphabet));
@@ -58,11 +76,8 @@ final class ModelTests {
                 hold("open");
             } else {
                 askAll();
-                calls += PLAIN.length;
             }
-            calls++;
         }
-        askAll();
     }
 
     private static void copyFrom(int text) {
@@ -97,59 +112,63 @@ final class ModelTests {
         holdPattern();
     }
 
+    /** All letters of a short pattern, and some of a long one. */
     private static void holdPattern() {
-        Due.is(run + ": the pattern", model.pattern, patternOf(object));
+        int length = model.pattern.length();
+        hold("patternLength");
+        for (int number = 0; number < length && number < 8; number++) {
+            hold("patternAt", length <= 8 ? number : next(length));
+        }
+        hold("patternAt", length);
     }
 
     private static void fullOfOneLetter() {
-        run = "one letter";
-        object = new SuffixWright();
-        model = new PlainModel();
-        hold("open");
-        for (int many = 0; many < 101; many++) {
-            hold("append", 0, 0);
-        }
         for (int letters = 0; letters < 28; letters++) {
+            beginFull("one letter", 1);
+            hold("append", 0, 0);
             hold("missing", letters);
             askAll();
-        }
-        for (int number = 90; number < 101; number++) {
-            hold("toPart", number);
+            hold("toPart", 73 + letters);
             askAll();
         }
     }
 
     /** Each part of four texts is reached by its number, and has that rank. */
     private static void eachWordOfALongText() {
-        run = "each part";
-        object = new SuffixWright();
-        model = new PlainModel();
+        beginFull("each part", 2);
+        int parts = (int) model.answer("parts");
+        for (int number = 0; number < parts; number++) {
+            if (calls > MOST_CALLS - 40) {
+                beginFull("each part", 2);
+            }
+            hold("toPart", number);
+            hold("rank");
+            holdPattern();
+            if (number % 7 == 0) {
+                askAll();
+            }
+        }
+        beginFull("each part", 2);
+        hold("toPart", parts);
+        holdPattern();
+    }
+
+    /** Texts with a hundred letters, the same ones each time. */
+    private static void beginFull(String name, int alphabet) {
+        begin(name);
         seed = 77;
-        for (int text = 0; text < 4; text++) {
+        int texts = alphabet == 1 ? 1 : 4;
+        for (int text = 0; text < texts; text++) {
             hold("open");
         }
         for (int many = 0; many < 100; many++) {
-            hold("append", next(4), next(2));
+            hold("append", next(texts), next(alphabet));
         }
-        int parts = (int) model.answer("parts");
-        for (int number = 0; number < parts; number++) {
-            hold("toPart", number);
-            Due.is(run + ": rank of " + number, number, object.rank());
-            holdPattern();
-            if (number % 25 == 0) {
-                askAll();
-                hold("followers");
-                hold("leaders");
-            }
-        }
-        hold("toPart", parts);
     }
 
-    private static void thousandsOfClears() {
-        run = "clears";
-        object = new SuffixWright();
-        model = new PlainModel();
-        for (int turn = 0; turn < 30; turn++) {
+    private static void clearsAgainAndAgain() {
+        begin("clears");
+        for (int turn = 0; turn < 8; turn++) {
             hold("open");
             hold("append", 0, turn % 26);
             hold("append", 0, turn % 26);
@@ -162,6 +181,10 @@ final class ModelTests {
     }
 
     private static void hold(String call, int... a) {
+        if (calls == MOST_CALLS) {
+            return;
+        }
+        calls++;
         Object due = model.answer(call, a);
         Due.is(run + ": " + call + Arrays.toString(a) + " on " + model.texts + " with " + model.pattern,
                 due, Due.answerOf(() -> call(call, a)));
@@ -199,14 +222,6 @@ final class ModelTests {
             case "missing": return object.missing(a[0]);
             default: throw new IllegalArgumentException(call);
         }
-    }
-
-    static String patternOf(SuffixWright object) {
-        StringBuilder pattern = new StringBuilder();
-        for (int number = 0; number < object.patternLength(); number++) {
-            pattern.append((char) ('a' + object.patternAt(number)));
-        }
-        return pattern.toString();
     }
 
     private static int next(int bound) {

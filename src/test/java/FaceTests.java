@@ -12,68 +12,93 @@ import java.util.regex.Matcher;
 import java.util.regex.Pattern;
 import java.util.stream.Collectors;
 
-/** The public face, to the letter of the document, and what of LANGUAGE.md a look at the source can tell. */
+/** The public face, to the letter of the document: as it is written in the source, and as it is compiled. */
 final class FaceTests {
     private static final String FACE = """
-            public static final int NONE;
-            public SuffixWright();
-            public void clear();
-            public int open() throws IllegalStateException;
-            public int append(int, int) throws IndexOutOfBoundsException, IllegalArgumentException, IllegalStateException;
-            public int texts();
-            public int length(int) throws IndexOutOfBoundsException;
-            public int letterAt(int, int) throws IndexOutOfBoundsException;
-            public int type(int) throws IllegalArgumentException, IllegalStateException;
-            public int erase() throws IllegalStateException;
-            public int wipe();
-            public void copy(int, int, int) throws IndexOutOfBoundsException, IllegalArgumentException;
-            public int patternLength();
-            public int patternAt(int) throws IndexOutOfBoundsException;
-            public boolean isPart();
-            public int occurrences();
-            public int occurrencesIn(int) throws IndexOutOfBoundsException;
-            public int first(int) throws IndexOutOfBoundsException;
-            public int last(int) throws IndexOutOfBoundsException;
-            public int followers();
-            public int leaders();
-            public int classes();
-            public int longestAlike();
-            public int shortestAlike();
-            public int parts();
-            public int rank();
-            public int toPart(int) throws IndexOutOfBoundsException;
-            public int common(int) throws IllegalArgumentException;
-            public int repeated(int) throws IllegalArgumentException;
-            public int missing(int) throws IllegalArgumentException;
+            public final class SuffixWright
+            public static final int NONE = -1
+            public SuffixWright()
+            ---- texts
+            public void clear()
+            public int open() throws IllegalStateException
+            public int append(int text, int letter) throws IndexOutOfBoundsException, IllegalArgumentException, IllegalStateException
+            public int texts()
+            public int length(int text) throws IndexOutOfBoundsException
+            public int letterAt(int text, int number) throws IndexOutOfBoundsException
+            ---- the pattern
+            public int type(int letter) throws IllegalArgumentException, IllegalStateException
+            public int erase() throws IllegalStateException
+            public int wipe()
+            public void copy(int text, int from, int many) throws IndexOutOfBoundsException, IllegalArgumentException
+            public int patternLength()
+            public int patternAt(int number) throws IndexOutOfBoundsException
+            ---- the places of the pattern
+            public boolean isPart()
+            public int occurrences()
+            public int occurrencesIn(int text) throws IndexOutOfBoundsException
+            public int first(int text) throws IndexOutOfBoundsException
+            public int last(int text) throws IndexOutOfBoundsException
+            public int followers()
+            public int leaders()
+            ---- classes
+            public int classes()
+            public int longestAlike()
+            public int shortestAlike()
+            ---- the order of parts
+            public int parts()
+            public int rank()
+            public int toPart(int number) throws IndexOutOfBoundsException
+            ---- what is found becomes the pattern
+            public int common(int set) throws IllegalArgumentException
+            public int repeated(int occurrences) throws IllegalArgumentException
+            public int missing(int letters) throws IllegalArgumentException
             """;
 
     public static void main(String[] args) throws Exception {
-        Due.is("the class", "public final", Modifier.toString(SuffixWright.class.getModifiers()));
+        Due.is("the face in the source", FACE.lines().toList(),
+                faceIn(Files.readString(Path.of("src/main/java/SuffixWright.java"))));
+        Due.is("the face as it is compiled", compiledFace(), faceOf(SuffixWright.class));
         Due.is("NONE", -1, SuffixWright.NONE);
-        Due.is("the face", new TreeSet<>(FACE.lines().toList()), new TreeSet<>(faceOf(SuffixWright.class)));
-        innerClasses();
-        source(Files.readString(Path.of("src/main/java/SuffixWright.java")));
+        aboveIsObjectAlone();
         Due.end();
     }
 
-    private static List<String> faceOf(Class<?> type) {
+    /** What is public in a source, and the lines that part it, up to those on what is inside. */
+    private static List<String> faceIn(String source) {
         List<String> face = new ArrayList<>();
-        for (Field field : type.getDeclaredFields()) {
-            if (!Modifier.isPrivate(field.getModifiers())) {
-                face.add(Modifier.toString(field.getModifiers()) + " " + field.getType().getSimpleName() + " "
-                        + field.getName() + ";");
+        Matcher lines = Pattern.compile("// (---- .*)|(?m)^ *(public [^{;]*)").matcher(source);
+        while (lines.find()) {
+            String line = lines.group(1) != null ? lines.group(1) : lines.group(2).replaceAll("\\s+", " ").trim();
+            if (!line.equals("---- inside")) {
+                face.add(line);
             }
-            Due.is("static " + field + " is final", true,
-                    !Modifier.isStatic(field.getModifiers()) || Modifier.isFinal(field.getModifiers()));
+        }
+        return face;
+    }
+
+    /** The compiler keeps no names of parameters, and no lines that part the calls. */
+    private static TreeSet<String> compiledFace() {
+        return FACE.lines().filter(line -> !line.startsWith("----"))
+                .map(line -> line.replaceAll("int [a-z]+(?=[,)])", "int").replace(" = -1", ""))
+                .collect(Collectors.toCollection(TreeSet::new));
+    }
+
+    private static TreeSet<String> faceOf(Class<?> type) {
+        TreeSet<String> face = new TreeSet<>();
+        face.add(Modifier.toString(type.getModifiers()) + " class " + type.getName());
+        for (Field each : type.getDeclaredFields()) {
+            if (!Modifier.isPrivate(each.getModifiers())) {
+                face.add(Modifier.toString(each.getModifiers()) + " " + each.getType().getSimpleName() + " " + each.getName());
+            }
         }
         for (Constructor<?> each : type.getDeclaredConstructors()) {
             face.add(Modifier.toString(each.getModifiers()) + " " + type.getSimpleName() + listed(each.getParameterTypes())
-                    + thrown(each.getExceptionTypes()) + ";");
+                    + thrown(each.getExceptionTypes()));
         }
         for (Method each : type.getDeclaredMethods()) {
             if (!Modifier.isPrivate(each.getModifiers())) {
                 face.add(Modifier.toString(each.getModifiers()) + " " + each.getReturnType().getSimpleName() + " "
-                        + each.getName() + listed(each.getParameterTypes()) + thrown(each.getExceptionTypes()) + ";");
+                        + each.getName() + listed(each.getParameterTypes()) + thrown(each.getExceptionTypes()));
             }
         }
         return face;
@@ -88,37 +113,9 @@ final class FaceTests {
                 : Arrays.stream(types).map(Class::getSimpleName).collect(Collectors.joining(", ", " throws ", ""));
     }
 
-    private static void innerClasses() {
-        List<String> names = Arrays.stream(SuffixWright.class.getDeclaredMethods())
-                .filter(each -> Modifier.isPublic(each.getModifiers())).map(Method::getName).toList();
-        List<Class<?>> all = new ArrayList<>(List.of(SuffixWright.class.getDeclaredClasses()));
-        for (Class<?> inner : all) {
-            Due.is(inner + " is private and static", true,
-                    Modifier.isPrivate(inner.getModifiers()) && Modifier.isStatic(inner.getModifiers()));
-        }
-        all.add(SuffixWright.class);
-        Due.is("some twelve classes at most", true, all.size() <= 12);
-        for (Class<?> each : all) {
-            for (Method method : each.getDeclaredMethods()) {
-                Due.is(method + " has a name of its own", false,
-                        !Modifier.isPublic(method.getModifiers()) && names.contains(method.getName()));
-                Due.is(method + " has seven parameters at most", true, method.getParameterCount() <= 7);
-            }
-            long own = Arrays.stream(each.getDeclaredFields()).filter(f -> !Modifier.isStatic(f.getModifiers())).count();
-            Due.is("some twenty fields of " + each, true, own <= 20);
-        }
-    }
-
-    private static void source(String source) {
-        String code = source.replaceAll("(?s)/\\*.*?\\*/", "").replaceAll("//[^\n]*", "").replaceAll("\"[^\"]*\"", "\"\"");
-        for (String word : new String[] {"package", "import", "try", "catch", "finally", "synchronized", "assert",
-            "System", "Thread", "Object", "double", "float", "Exact", "instanceof", "static \\{", "->", "::", "@"}) {
-            Due.is("the source has " + word, false, Pattern.compile("(?<![A-Za-z])" + word + "(?![A-Za-z])").matcher(code).find());
-        }
-        Matcher made = Pattern.compile("new ([A-Za-z]+)").matcher(code);
-        while (made.find()) {
-            Due.is("new " + made.group(1), true, List.of("Word", "Ends", "Automaton", "Guide", "int",
-                    "IllegalStateException", "IllegalArgumentException", "IndexOutOfBoundsException").contains(made.group(1)));
-        }
+    private static void aboveIsObjectAlone() {
+        Due.is("above the class", Object.class, SuffixWright.class.getSuperclass());
+        Due.is("interfaces", 0, SuffixWright.class.getInterfaces().length);
+        Due.is("the package", "", SuffixWright.class.getPackageName());
     }
 }

@@ -4,8 +4,6 @@ import java.util.Arrays;
 final class ModelTests {
     private static final int[] EXTREMES = {Integer.MIN_VALUE, Integer.MIN_VALUE + 1, -101, -27, -2, -1, 0, 1, 2, 3, 4, 5,
         15, 16, 25, 26, 27, 99, 100, 101, 119, 120, 121, 5050, 1 << 26, Integer.MAX_VALUE - 1, Integer.MAX_VALUE};
-    private static final String[] PLAIN = {"texts", "patternLength", "isPart", "occurrences", "followers", "leaders",
-        "classes", "longestAlike", "shortestAlike", "parts", "rank"};
     private static final String[] OF_ONE = {"length", "type", "patternAt", "occurrencesIn", "first", "last", "toPart",
         "common", "repeated", "missing"};
     private static final String[] STEPS = {"erase", "wipe", "open"};
@@ -102,7 +100,7 @@ final class ModelTests {
     }
 
     private static void askAll() {
-        for (String call : PLAIN) {
+        for (String call : Calls.PLAIN) {
             hold(call);
         }
         int text = next(4);
@@ -187,41 +185,7 @@ final class ModelTests {
         calls++;
         Object due = model.answer(call, a);
         Due.is(run + ": " + call + Arrays.toString(a) + " on " + model.texts + " with " + model.pattern,
-                due, Due.answerOf(() -> call(call, a)));
-    }
-
-    private static Object call(String call, int... a) {
-        switch (call) {
-            case "clear": object.clear(); return null;
-            case "open": return object.open();
-            case "append": return object.append(a[0], a[1]);
-            case "texts": return object.texts();
-            case "length": return object.length(a[0]);
-            case "letterAt": return object.letterAt(a[0], a[1]);
-            case "type": return object.type(a[0]);
-            case "erase": return object.erase();
-            case "wipe": return object.wipe();
-            case "copy": object.copy(a[0], a[1], a[2]); return null;
-            case "patternLength": return object.patternLength();
-            case "patternAt": return object.patternAt(a[0]);
-            case "isPart": return object.isPart();
-            case "occurrences": return object.occurrences();
-            case "occurrencesIn": return object.occurrencesIn(a[0]);
-            case "first": return object.first(a[0]);
-            case "last": return object.last(a[0]);
-            case "followers": return object.followers();
-            case "leaders": return object.leaders();
-            case "classes": return object.classes();
-            case "longestAlike": return object.longestAlike();
-            case "shortestAlike": return object.shortestAlike();
-            case "parts": return object.parts();
-            case "rank": return object.rank();
-            case "toPart": return object.toPart(a[0]);
-            case "common": return object.common(a[0]);
-            case "repeated": return object.repeated(a[0]);
-            case "missing": return object.missing(a[0]);
-            default: throw new IllegalArgumentException(call);
-        }
+                due, Due.answerOf(() -> Calls.on(object, call, a)));
     }
 
     private static int next(int bound) {

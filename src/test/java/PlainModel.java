@@ -20,6 +20,15 @@ final class PlainModel {
     /** Every part with its ends, by the alphabet; made anew when a text has grown. */
     private TreeMap<String, Set<List<Integer>>> endsOfParts = new TreeMap<>();
 
+    static PlainModel of(String... texts) {
+        PlainModel model = new PlainModel();
+        for (String letters : texts) {
+            model.texts.add(new StringBuilder(letters));
+        }
+        model.findParts();
+        return model;
+    }
+
     Object answer(String call, int... a) {
         switch (call) {
             case "clear": texts.clear(); pattern = ""; findParts(); return null;

@@ -352,24 +352,14 @@ final class PromiseTests {
     private static void classes() {
         Due.is("promise 21: no text", 0, new SuffixWright().classes());
         Due.is("promise 21: empty texts", 0, Letters.of("", "").classes());
-        Due.is("promise 21: banana", 9, classesBySearch("banana"));
+        Due.is("promise 21: banana by plain search", 9, PlainModel.of("banana").answer("classes"));
         Due.is("promise 21: banana", 9, Letters.of("banana").classes());
         Due.is("promise 21: one letter", 4, Letters.of("aaaa").classes());
         Due.is("promise 21: the same text again", 4, Letters.of("aaaa", "aaa").classes());
         Due.is("promise 21: letters that differ", 4, Letters.of("abcd").classes());
         Due.is("promise 21: two texts", 3, Letters.of("ab", "b").classes());
-        Due.is("promise 21: ends in other texts are others", classesBySearch("abc", "bc", "xc"), Letters.of("abc", "bc", "xc").classes());
-    }
-
-    private static Object classesBySearch(String... texts) {
-        PlainModel model = new PlainModel();
-        for (int text = 0; text < texts.length; text++) {
-            model.answer("open");
-            for (char letter : texts[text].toCharArray()) {
-                model.answer("append", text, letter - 'a');
-            }
-        }
-        return model.answer("classes");
+        Due.is("promise 21: ends in other texts are others", PlainModel.of("abc", "bc", "xc").answer("classes"),
+                Letters.of("abc", "bc", "xc").classes());
     }
 
     private static void longestAlike() {

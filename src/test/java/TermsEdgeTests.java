@@ -1,3 +1,4 @@
+import java.lang.reflect.Method;
 import java.util.TreeSet;
 
 /** The boundary cases that the document names under "Terms", and what each refused call leaves as it was. */
@@ -7,6 +8,7 @@ final class TermsEdgeTests {
     private static final Class<? extends Exception> STATE = IllegalStateException.class;
 
     public static void main(String[] args) {
+        lettersInAnyOrderOfTexts();
         nothingIsTakenBack();
         refusedOnANewObject();
         refusedOnEmptyTexts();
@@ -35,11 +37,35 @@ final class TermsEdgeTests {
         thePatternMayBeAPartOrNot();
         none();
         fiveHundredAndTwelveCalls();
+        eachCallMayBeTheLastOfThem();
+        asManyLettersAsThereAreCalls();
         objectsAreOnTheirOwn();
         Due.end();
     }
 
-    // ---- a call that throws changes nothing
+    // ---- texts grow in any order, and nothing is taken back
+
+    private static void lettersInAnyOrderOfTexts() {
+        String[] texts = {"banana", "nab", "", "anab"};
+        // The text of each letter in turn.
+        String[] orders = {"0000001113333", "3333111000000", "1113333000000", "0130130130300", "3103103103000", "0000003311133"};
+        for (String pattern : new String[] {"", "an", "nab", "anab", "x"}) {
+            String due = Letters.everythingOf(Letters.withPattern(pattern, texts));
+            for (String order : orders) {
+                Due.is("terms: " + pattern + " in texts grown by " + order, due,
+                        Letters.everythingOf(Letters.asks(grownBy(order, texts), pattern)));
+            }
+        }
+    }
+
+    private static SuffixWright grownBy(String order, String... texts) {
+        SuffixWright x = Letters.of("", "", "", "");
+        for (char digit : order.toCharArray()) {
+            int text = digit - '0';
+            x.append(text, texts[text].charAt(x.length(text)) - 'a');
+        }
+        return x;
+    }
 
     private static void nothingIsTakenBack() {
         SuffixWright x = Letters.withPattern("n", "banana");
@@ -48,6 +74,8 @@ final class TermsEdgeTests {
         x.missing(3);
         Due.is("terms: a text keeps its letters", "banana", Letters.textOf(x, 0));
     }
+
+    // ---- a call that throws changes nothing
 
     private static void refusedOnANewObject() {
         Due.Making making = SuffixWright::new;
@@ -386,6 +414,38 @@ final class TermsEdgeTests {
         }
         Due.is("terms: all answers up to call 511", 1, answers.size());
         Due.is("terms: the call 512", 120, x.wipe());
+    }
+
+    private static void eachCallMayBeTheLastOfThem() {
+        for (Method each : SuffixWright.class.getMethods()) {
+            if (each.getDeclaringClass() == SuffixWright.class) {
+                theLastCall(each.getName(), 1, 1, 1);
+            }
+        }
+    }
+
+    private static void theLastCall(String call, int... a) {
+        // 2 texts, 8 letters and 2 typed are 12 calls.
+        SuffixWright x = Letters.withPattern("an", "banana", "na");
+        PlainModel model = PlainModel.of("banana", "na");
+        model.pattern = "an";
+        String[] between = {"type", "erase", "rank", "append"};
+        for (int made = 12; made < 511; made++) {
+            String next = between[made % 4];
+            Due.answerOf(() -> Calls.on(x, next, 1, 26));
+        }
+        Due.is("terms: the call 512, " + call, model.answer(call, a), Due.answerOf(() -> Calls.on(x, call, a)));
+    }
+
+    private static void asManyLettersAsThereAreCalls() {
+        SuffixWright x = new SuffixWright();
+        for (int turn = 0; turn < 5; turn++) {
+            x.clear();
+            Letters.opened(x, "a" + "b".repeat(99));
+        }
+        // These were 510 calls.
+        Due.is("terms: the call 511", 198, x.classes());
+        Due.is("terms: the call 512", 199, x.parts());
     }
 
     private static void objectsAreOnTheirOwn() {
